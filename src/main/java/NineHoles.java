@@ -6,6 +6,7 @@ public final class NineHoles {
 
     private static final int NOT_SO = -2;
     private static final int NO_SUCH_PLACE = -3;
+    private static final int AS_IT_SHOULD_BE = -3;
     private static final int MOST_LETTERS = 32;
     private static final int STREETS = 20;
     private static final int MOST_WEIGHT = 99;
@@ -19,7 +20,7 @@ public final class NineHoles {
     private static final int NO_HOLE = 9;
 
     private final Tape tape = new Tape();
-    private final LawReader reader = new LawReader();
+    private final LawReader reader = new LawReader(tape.bytes);
     private final int[] ranks = new int[STREETS];
     private final int[] keyAt = new int[MOST_LETTERS];
     private final Rack rack = new Rack();
@@ -33,7 +34,6 @@ public final class NineHoles {
     private final Tables partings = new Tables(rack);
     private final Yard siding = new Yard(rack);
     private final Blame blame = new Blame(rack, sorter);
-    private Law spareLaw = new Law();
     private boolean anyKept = false;
 
     public NineHoles() {
@@ -45,10 +45,7 @@ public final class NineHoles {
     public int letter(int street, int weight, int comes) {
         boolean fits = isStreet(street) && weight >= 0 && weight <= MOST_WEIGHT && comes >= 0 && comes <= LAST_GO;
         boolean tooLate = comes > 0 && comes <= now.go;
-        if (!fits || tooLate || now.letters >= MOST_LETTERS) {
-            return NONE;
-        }
-        return now.add(street, weight, comes);
+        return fits && !tooLate ? now.add(street, weight, comes) : NONE;
     }
 
     public boolean rank(int street, int r) {
@@ -84,12 +81,10 @@ public final class NineHoles {
         if (n < 1 || n > Law.MOST_BYTES || n > tape.size) {
             return NONE;
         }
-        int told = reader.read(tape, n, spareLaw);
+        int told = reader.read(n);
         tape.size = 0;
         if (told > 0) {
-            Law before = sorter.law;
-            sorter.law = spareLaw;
-            spareLaw = before;
+            sorter.law = reader.exchange(sorter.law);
         }
         return told;
     }
@@ -293,15 +288,15 @@ public final class NineHoles {
         if (trial.size > tape.size) {
             return NONE;
         }
-        boolean asItShouldBe = tape.tells(trial);
+        boolean right = tape.tells(trial);
         boolean each = tape.tellsEachOf(trial);
         blame.found = 0;
-        if (each && !asItShouldBe) {
+        if (each && !right) {
             blame.search(now, n, tape);
         }
         tape.size = 0;
-        if (asItShouldBe) {
-            return NO_SUCH_PLACE;
+        if (right) {
+            return AS_IT_SHOULD_BE;
         }
         return blame.found == 0 ? NOT_SO : blame.answer(what);
     }
@@ -487,7 +482,7 @@ public final class NineHoles {
         static final int MOST = 220;
         static final int FED_AT_ONCE = 20;
 
-        private final int[] bytes = new int[MOST];
+        final int[] bytes = new int[MOST];
         int size = 0;
 
         boolean hasRoom() {
@@ -565,10 +560,9 @@ public final class NineHoles {
             go = from.go;
         }
 
-        /** There must be room for one more. */
         int add(int itsStreet, int itsWeight, int itComes) {
             int number = letters;
-            if (number < 0 || number >= MOST_LETTERS) {
+            if (number >= MOST_LETTERS) {
                 return NONE;
             }
             street[number] = itsStreet;
@@ -589,8 +583,9 @@ public final class NineHoles {
             }
         }
 
+        /** Once all are in the heap there is nobody to look for: trials come here by the hundred. */
         void comeIn() {
-            for (int i = 0; i < letters; i++) {
+            for (int i = 0; i < letters && size < letters; i++) {
                 if (comes[i] == go + 1) {
                     putBehind(i);
                 }
@@ -729,13 +724,13 @@ public final class NineHoles {
             return (asked >> SIGNS.indexOf(sign) & 1) != 0;
         }
 
-        int holeBy(int[] signs, int holes) {
+        boolean leavesOut(int[] signs) {
             for (int c = 0; c < clauses; c++) {
                 if (kind[c] == 'z' && run(middle[c], to[c], signs) != 0) {
-                    return LEFT_OUT;
+                    return true;
                 }
             }
-            return amount('h', signs, holes - 1);
+            return false;
         }
 
         int amount(int wantedKind, int[] signs, int most) {
@@ -749,30 +744,34 @@ public final class NineHoles {
 
         /** What is refused answers 0: an amount is 0 then, and a condition does not hold, whatever stands around. */
         private int run(int start, int end, int[] signs) {
-            int top = -1;
+            int held = 0;
             for (int step = start; step < end; step++) {
                 int code = codes[step];
                 if (code == NUMBER || code == SIGN) {
-                    top++;
-                    stack[top] = code == SIGN ? signs[values[step]] : values[step];
-                } else if (code == '!') {
-                    stack[top] = 1 - stack[top];
-                } else if (code == '&' || code == '|') {
-                    if (stack[top] == (code == '|' ? 1 : 0)) {
+                    stack[held] = code == SIGN ? signs[values[step]] : values[step];
+                    held++;
+                } else if (code == '!' && held > 0) {
+                    stack[held - 1] = 1 - stack[held - 1];
+                } else if (isLeap(code) && held > 0) {
+                    if (stack[held - 1] == (code == '|' ? 1 : 0)) {
                         step += values[step];
                     } else {
-                        top--;
+                        held--;
                     }
-                } else {
-                    int right = stack[top];
-                    top--;
+                } else if (held > 1) {
+                    held--;
+                    int right = stack[held];
                     if (right == 0 && (code == '/' || code == '%')) {
                         return 0;
                     }
-                    stack[top] = reckon(code, stack[top], right);
+                    stack[held - 1] = reckon(code, stack[held - 1], right);
                 }
             }
-            return top == 0 ? stack[0] : 0;
+            return held > 0 ? stack[0] : 0;
+        }
+
+        private static boolean isLeap(int code) {
+            return code == '&' || code == '|';
         }
 
         private static int reckon(int code, int left, int right) {
@@ -799,25 +798,34 @@ public final class NineHoles {
         private static final int MOST_OPEN = 6;
         private static final int END = -1;
 
-        private Tape text = null;
-        private Law made = null;
+        private final int[] text;
+        private Law made = new Law();
         private int length = 0;
         private int here = 0;
         private int fault = 0;
 
+        LawReader(int[] text) {
+            this.text = text;
+        }
+
+        /** The law just read, for one that is no longer in force: its rows serve the next reading. */
+        Law exchange(Law old) {
+            Law read = made;
+            made = old;
+            return read;
+        }
+
         /** How many clauses, or the fault. */
-        int read(Tape tape, int n, Law into) {
-            text = tape;
-            made = into;
-            length = n;
+        int read(int n) {
+            length = Math.min(n, text.length);
             here = 0;
             fault = 0;
-            into.clear();
+            made.clear();
             boolean good = clause();
             for (int more = 1; more <= Law.MOST_CLAUSES && good && here < length; more++) {
                 good = take(';') && clause();
             }
-            return good ? into.clauses : fault;
+            return good ? made.clauses : fault;
         }
 
         private boolean clause() {
@@ -958,7 +966,7 @@ public final class NineHoles {
         }
 
         private int next() {
-            return here < length ? text.byteAt(here) : END;
+            return here < length ? text[here] : END;
         }
 
         private boolean take(int sign) {
@@ -997,7 +1005,7 @@ public final class NineHoles {
 
         int holeFor(State s, int place) {
             putSigns(s, place);
-            return law.holeBy(signs, rack.holes);
+            return law.leavesOut(signs) ? LEFT_OUT : law.amount('h', signs, rack.holes - 1);
         }
 
         int secondsFor(State s, int place) {
@@ -1439,7 +1447,9 @@ public final class NineHoles {
         private final int[] lawful = new int[MOST_LETTERS];
         private final int[] answers = new int[MOST_BLAMED_GOES * MOST_LETTERS * MOST_LETTERS * LAST_HOLES];
         private final int[] firstFound = new int[3];
-        private int search = 0;
+        private boolean byPlace = false;
+        private boolean byHole = false;
+        private int searches = 0;
         int found = 0;
 
         Blame(Rack rack, Sorter sorter) {
@@ -1452,8 +1462,10 @@ public final class NineHoles {
         }
 
         void search(State now, int n, Tape told) {
-            search++;
+            searches++;
             found = 0;
+            byPlace = sorter.law.asks('p');
+            byHole = sorter.law.asks('o');
             rightly.copyFrom(now);
             wrongly.copyFrom(now);
             for (int k = 0; k < n; k++) {
@@ -1473,24 +1485,21 @@ public final class NineHoles {
 
         private void tryHoles(int k, int n, int place, Tape told) {
             for (int hole = 0; hole < rack.holes; hole++) {
-                if (hole != lawful[place]) {
-                    endWith(k, n, place, hole);
-                    if (told.tells(wrongly)) {
-                        note(k, rightly.order[place], hole);
-                    }
+                if (hole == lawful[place]) {
+                    continue;
                 }
-            }
-        }
-
-        private void endWith(int k, int n, int place, int hole) {
-            wrongly.copyGoesFrom(rightly);
-            System.arraycopy(lawful, 0, sorter.into, 0, MOST_LETTERS);
-            sorter.into[place] = hole;
-            sorter.throwAll(wrongly);
-            for (int later = k + 1; later < n; later++) {
-                wrongly.comeIn();
-                askKnown(wrongly, later);
+                wrongly.copyGoesFrom(rightly);
+                System.arraycopy(lawful, 0, sorter.into, 0, MOST_LETTERS);
+                sorter.into[place] = hole;
                 sorter.throwAll(wrongly);
+                for (int later = k + 1; later < n; later++) {
+                    wrongly.comeIn();
+                    askKnown(wrongly, later);
+                    sorter.throwAll(wrongly);
+                }
+                if (told.tells(wrongly)) {
+                    note(k, rightly.order[place], hole);
+                }
             }
         }
 
@@ -1505,14 +1514,12 @@ public final class NineHoles {
 
         /** Hundreds of trials ask the law much the same: each answer is kept, with the number of the search. */
         private void askKnown(State s, int k) {
-            boolean byPlace = sorter.law.asks('p');
-            boolean byHole = sorter.law.asks('o');
             for (int place = 0; place < s.size; place++) {
                 int letter = s.order[place];
                 int row = (k * MOST_LETTERS + letter) * MOST_LETTERS + (byPlace ? place : 0);
                 int entry = row * LAST_HOLES + (byHole ? s.lastHole[letter] : 0);
-                if (answers[entry] >> 4 != search) {
-                    answers[entry] = search << 4 | sorter.holeFor(s, place) - LEFT_OUT;
+                if (answers[entry] >> 4 != searches) {
+                    answers[entry] = searches << 4 | sorter.holeFor(s, place) - LEFT_OUT;
                 }
                 sorter.into[place] = (answers[entry] & 15) + LEFT_OUT;
             }
