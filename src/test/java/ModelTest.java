@@ -94,7 +94,7 @@ public final class ModelTest {
         String test = upTo(3) == 0 ? "1=1" : test(3);
         if (k == 0) return "z(w>" + (70 + upTo(30)) + "&" + test + ")";
         if (k < 3) return "t" + sum(2) + "(" + test + ")";
-        String[] plain = {"s", "r", "s%n", "r/n", "o+1", "p%n", "i%n", "[s+g]%n", "w/9"};
+        String[] plain = {"s", "r", "s%n", "r/n", "o+1", "p%n", "i%n", "[s+g]%n", "w/9", "[o+p]%n", "[o*3+p+g]%n", "[w+o]%n"};
         return "h" + (upTo(2) == 0 ? plain[upTo(plain.length)] : sum(2)) + "(" + test + ")";
     }
 
