@@ -295,10 +295,7 @@ public final class NineHoles {
             blame.search(now, n, tape);
         }
         tape.size = 0;
-        if (right) {
-            return AS_IT_SHOULD_BE;
-        }
-        return blame.found == 0 ? NOT_SO : blame.answer(what);
+        return right ? AS_IT_SHOULD_BE : blame.answer(what);
     }
 
     public int clerks(int k) {
@@ -1457,8 +1454,12 @@ public final class NineHoles {
             this.sorter = sorter;
         }
 
+        /** How many there are is a number even where there is none; only of the first one nothing can be told then. */
         int answer(int what) {
-            return what < 0 || what >= firstFound.length ? found : firstFound[what];
+            if (what == NONE) {
+                return found;
+            }
+            return found > 0 && what >= 0 && what < firstFound.length ? firstFound[what] : NOT_SO;
         }
 
         void search(State now, int n, Tape told) {

@@ -494,8 +494,8 @@ final class Model {
                 }
             }
         }
-        if (found.isEmpty()) return -2;
-        return what == -1 ? found.size() : found.get(0)[what];
+        if (what == -1) return found.size();
+        return found.isEmpty() ? -2 : found.get(0)[what];
     }
 
     // ---- clerks, wanted, the rest

@@ -720,9 +720,15 @@ public final class PromisesTest {
         due("as it should be", badly(x, 1, -1, 4, 1, 3, 2, 0), -3);
         due("as it should be", badly(x, 1, 0, 4, 1, 3, 2, 0), -3);
         due("none", badly(x, 1, 0, 0, 1, 2, 3, 4), -2);
-        due("none, how many", badly(x, 1, -1, 0, 1, 2, 3, 4), -2);
-        due("one twice", badly(x, 1, -1, 4, 1, 2, 3, 3), -2);
-        due("another letter", badly(x, 1, -1, 4, 1, 2, 3, 77), -2);
+        due("none, the letter", badly(x, 1, 1, 0, 1, 2, 3, 4), -2);
+        due("none, the hole", badly(x, 1, 2, 0, 1, 2, 3, 4), -2);
+        due("none, how many", badly(x, 1, -1, 0, 1, 2, 3, 4), 0);
+        due("how many behind a search that found some", badly(x, 1, -1, 4, 1, 2, 3, 0), 2);
+        due("one twice, how many", badly(x, 1, -1, 4, 1, 2, 3, 3), 0);
+        due("one twice", badly(x, 1, 0, 4, 1, 2, 3, 3), -2);
+        due("another letter, how many", badly(x, 1, -1, 4, 1, 2, 3, 77), 0);
+        due("another letter", badly(x, 1, 2, 4, 1, 2, 3, 77), -2);
+        due("empty behind none, too", x.count(4), 0);
         feed(x, 4, 1, 2, 3, 0);
         due("0 goes", x.badly(0, -1), -1);
         due("7 goes", x.badly(7, -1), -1);
@@ -749,6 +755,12 @@ public final class PromisesTest {
         for (int i = 0; i < 32; i++) many.letter(i % 20, 0, 0);
         due("32 letters, 20 bytes", badly(many, 1, 0, 0, 1, 2), -1);
         due("the tape stays", many.count(4), 20);
+        NineHoles nobody = new NineHoles();
+        due("no letters are as they should be", nobody.badly(6, -1), -3);
+        NineHoles oneHole = heap(0, 0);
+        oneHole.rack(1, 0);
+        due("no other hole, how many", badly(oneHole, 1, -1, 1, 0), 0);
+        due("no other hole", badly(oneHole, 1, 0, 1, 0), -2);
     }
 
     private static void clerks() {
