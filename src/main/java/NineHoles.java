@@ -1435,18 +1435,18 @@ public final class NineHoles {
 
     /** Looks for the single wrong throws behind which an order is just as told. */
     private static final class Blame {
-        private static final int LAST_HOLES = NO_HOLE + 1;
+        private static final int BITS = 4;
+        private static final int ANSWER = 15;
 
         private final Rack rack;
         private final Sorter sorter;
         private final State rightly = new State();
         private final State wrongly = new State();
         private final int[] lawful = new int[MOST_LETTERS];
-        private final int[] answers = new int[MOST_BLAMED_GOES * MOST_LETTERS * MOST_LETTERS * LAST_HOLES];
+        private final long[] answers = new long[MOST_BLAMED_GOES * MOST_LETTERS * MOST_LETTERS];
         private final int[] firstFound = new int[3];
         private boolean byPlace = false;
         private boolean byHole = false;
-        private int searches = 0;
         int found = 0;
 
         Blame(Rack rack, Sorter sorter) {
@@ -1463,7 +1463,7 @@ public final class NineHoles {
         }
 
         void search(State now, int n, Tape told) {
-            searches++;
+            Arrays.fill(answers, 0);
             found = 0;
             byPlace = sorter.law.asks('p');
             byHole = sorter.law.asks('o');
@@ -1513,16 +1513,18 @@ public final class NineHoles {
             found++;
         }
 
-        /** Hundreds of trials ask the law much the same: each answer is kept, with the number of the search. */
+        /** Hundreds of trials ask the law much the same: each answer is kept, for each last hole in bits of its own (0: none yet). */
         private void askKnown(State s, int k) {
             for (int place = 0; place < s.size; place++) {
                 int letter = s.order[place];
                 int row = (k * MOST_LETTERS + letter) * MOST_LETTERS + (byPlace ? place : 0);
-                int entry = row * LAST_HOLES + (byHole ? s.lastHole[letter] : 0);
-                if (answers[entry] >> 4 != searches) {
-                    answers[entry] = searches << 4 | sorter.holeFor(s, place) - LEFT_OUT;
+                int shift = byHole ? BITS * s.lastHole[letter] : 0;
+                int known = (int) (answers[row] >> shift) & ANSWER;
+                if (known == 0) {
+                    known = sorter.holeFor(s, place) - LEFT_OUT + 1;
+                    answers[row] |= (long) known << shift;
                 }
-                sorter.into[place] = (answers[entry] & 15) + LEFT_OUT;
+                sorter.into[place] = known - 1 + LEFT_OUT;
             }
         }
     }

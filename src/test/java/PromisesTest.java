@@ -1,72 +1,5 @@
 /** Each promise of the document by hand: ordinary inputs, the edges that it names, wrong inputs. */
-public final class PromisesTest {
-    private static int held = 0;
-    private static int wrong = 0;
-    private static int promise = 0;
-
-    private static void due(String what, int got, int want) {
-        held++;
-        if (got != want) {
-            wrong++;
-            System.out.println("promise " + promise + ", " + what + ": answered " + got + ", due is " + want);
-        }
-    }
-
-    private static void due(String what, boolean got, boolean want) {
-        due(what, got ? 1 : 0, want ? 1 : 0);
-    }
-
-    /** Feeds bytes in twenties, zeros behind them. */
-    private static int feed(NineHoles x, int... bytes) {
-        int had = 0;
-        for (int i = 0; i < bytes.length; i += 20) {
-            int[] v = new int[5];
-            for (int j = 0; j < 20; j++) v[j / 4] = v[j / 4] << 8 | (i + j < bytes.length ? bytes[i + j] & 255 : 0);
-            had = x.feed(v[0], v[1], v[2], v[3], v[4]);
-        }
-        return had;
-    }
-
-    private static int law(NineHoles x, String text) {
-        int[] bytes = new int[text.length()];
-        for (int i = 0; i < bytes.length; i++) bytes[i] = text.charAt(i);
-        x.check(0);
-        feed(x, bytes);
-        return x.law(bytes.length);
-    }
-
-    private static boolean order(NineHoles x, int... letters) {
-        x.check(0);
-        feed(x, letters);
-        return x.order(letters.length);
-    }
-
-    private static int badly(NineHoles x, int n, int what, int... letters) {
-        x.check(0);
-        feed(x, letters);
-        return x.badly(n, what);
-    }
-
-    private static int check(NineHoles x, int n, int... numbers) {
-        int[] bytes = new int[4 * numbers.length];
-        for (int i = 0; i < bytes.length; i++) bytes[i] = numbers[i / 4] >>> 24 - i % 4 * 8;
-        x.check(0);
-        feed(x, bytes);
-        return x.check(n);
-    }
-
-    private static void dueHeap(String what, NineHoles x, int... letters) {
-        due(what + ": how many", x.count(1), letters.length);
-        for (int p = 0; p < letters.length; p++) due(what + ": at " + p, x.at(p), letters[p]);
-    }
-
-    /** Letters of these streets, weight 1, all there. */
-    private static NineHoles heap(int... streets) {
-        NineHoles x = new NineHoles();
-        for (int s : streets) x.letter(s, 1, 0);
-        return x;
-    }
-
+public final class PromisesTest extends Office {
     private static String repeat(String s, int n) {
         return s.repeat(n);
     }
@@ -103,12 +36,11 @@ public final class PromisesTest {
         keptAndUndone();
         checks();
         counts();
-        System.out.println("PromisesTest: " + held + " answers, " + wrong + " wrong");
-        if (wrong > 0) System.exit(1);
+        end("PromisesTest");
     }
 
     private static void aNewObject() {
-        promise = 1;
+        about("promise 1");
         NineHoles x = new NineHoles();
         int[] want = {0, 0, 0, 0, 0, 1, 9, 0, 0, 0};
         for (int what = 0; what < 10; what++) due("count " + what, x.count(what), want[what]);
@@ -118,7 +50,7 @@ public final class PromisesTest {
     }
 
     private static void letters() {
-        promise = 2;
+        about("promise 2");
         NineHoles x = new NineHoles();
         due("street -1", x.letter(-1, 0, 0), -1);
         due("street 20", x.letter(20, 0, 0), -1);
@@ -149,7 +81,7 @@ public final class PromisesTest {
     }
 
     private static void ranks() {
-        promise = 3;
+        about("promise 3");
         NineHoles x = heap(3, 1);
         due("street -1", x.rank(-1, 0), false);
         due("street 20", x.rank(20, 0), false);
@@ -164,7 +96,7 @@ public final class PromisesTest {
     }
 
     private static void racks() {
-        promise = 4;
+        about("promise 4");
         NineHoles x = heap(1, 8);
         law(x, "hs(1=1)");
         x.goes(1);
@@ -183,7 +115,7 @@ public final class PromisesTest {
     }
 
     private static void feeding() {
-        promise = 5;
+        about("promise 5");
         NineHoles x = new NineHoles();
         for (int k = 1; k <= 11; k++) due("fed", x.feed(0, 0, 0, 0, 0), 20 * k);
         due("a twelfth", x.feed(0, 0, 0, 0, 0), -1);
@@ -200,7 +132,7 @@ public final class PromisesTest {
     }
 
     private static void laws() {
-        promise = 6;
+        about("promise 6");
         NineHoles x = heap(3, 4);
         due("three", law(x, "h5(s=3);t3(g=1);z(s=4)"), 3);
         due("clauses", x.count(3), 3);
@@ -317,7 +249,7 @@ public final class PromisesTest {
     }
 
     private static void orders() {
-        promise = 7;
+        about("promise 7");
         NineHoles x = heap(1, 2, 3);
         x.letter(4, 0, 5);
         due("true", order(x, 2, 0, 1), true);
@@ -341,7 +273,7 @@ public final class PromisesTest {
     }
 
     private static void letterIs() {
-        promise = 8;
+        about("promise 8");
         NineHoles x = new NineHoles();
         x.letter(4, 7, 0);
         x.letter(5, 60, 2);
@@ -361,7 +293,7 @@ public final class PromisesTest {
     }
 
     private static void places() {
-        promise = 9;
+        about("promise 9");
         NineHoles x = heap(5, 4);
         due("-1", x.at(-1), -1);
         due("0", x.at(0), 0);
@@ -371,7 +303,7 @@ public final class PromisesTest {
     }
 
     private static void goes() {
-        promise = 10;
+        about("promise 10");
         NineHoles x = heap(2, 1, 2, 0, 1);
         x.rack(3, 2);
         law(x, "hs(1=1);ts+1(1=1)");
@@ -405,7 +337,7 @@ public final class PromisesTest {
     }
 
     private static void tried() {
-        promise = 11;
+        about("promise 11");
         NineHoles x = heap(2, 1, 0);
         x.letter(0, 9, 2);
         law(x, "hs(1=1);t2(1=1);z(s=1)");
@@ -438,7 +370,7 @@ public final class PromisesTest {
     }
 
     private static void out() {
-        promise = 12;
+        about("promise 12");
         due("none", heap().out(), -1);
         due("one", heap(5).out(), -1);
         due("like ones", heap(5, 5, 6).out(), -1);
@@ -447,7 +379,7 @@ public final class PromisesTest {
     }
 
     private static void forAny() {
-        promise = 13;
+        about("promise 13");
         NineHoles x = new NineHoles();
         int[][] want = {{0, 2, -1}, {10001, 2, -1}, {5, 0, -1}, {5, 10, -1}, {-1, 2, -1}, {1, 1, 0}, {2, 1, -2}, {10000, 1, -2}, {1, 9, 0},
             {2, 2, 1}, {3, 2, 2}, {4, 2, 2}, {5, 2, 3}, {9, 9, 1}, {10, 9, 2}, {81, 9, 2}, {82, 9, 3}, {10000, 2, 14}, {8192, 2, 13},
@@ -456,7 +388,7 @@ public final class PromisesTest {
     }
 
     private static void runs() {
-        promise = 14;
+        about("promise 14");
         NineHoles x = heap(3, 1, 2, 1, 0);
         due("forward", x.runs(0), 4);
         due("backward", x.runs(1), 2);
@@ -477,7 +409,7 @@ public final class PromisesTest {
     }
 
     private static void plans() {
-        promise = 15;
+        about("promise 15");
         due("none", heap().plan(), 0);
         due("in order", heap(1, 1, 2).plan(), 0);
         NineHoles x = heap(3, 1, 2, 1, 0);
@@ -498,7 +430,7 @@ public final class PromisesTest {
         due("17 by two queues", far.plan(), 5);
         far.letter(0, 0, 0);
         due("like before", far.plan(), 5);
-        promise = 16;
+        about("promise 16");
         x.rack(2, 2);
         due("a queue and a pipe", x.plan(), 2);
         // ways in order: 00 10 (in the queue), then turned round in the pipe: 11 01
@@ -518,7 +450,7 @@ public final class PromisesTest {
     }
 
     private static void plansDone() {
-        promise = 17;
+        about("promise 17");
         NineHoles x = heap(3, 1, 2, 1, 0);
         law(x, "h5(1=1);z(i=2);t9(1=1)");
         x.letter(0, 0, 1);
@@ -540,7 +472,7 @@ public final class PromisesTest {
     }
 
     private static void tables() {
-        promise = 18;
+        about("promise 18");
         NineHoles x = heap(3, 1, 2, 1, 0);
         x.rack(2, 0);
         int[][] none = {{0, 20, 1}, {-1, 3, 1}, {5, 4, 1}, {0, 5, 0}, {0, 5, 13}};
@@ -574,7 +506,7 @@ public final class PromisesTest {
     }
 
     private static void firstStreets() {
-        promise = 19;
+        about("promise 19");
         NineHoles x = heap(3, 1, 2, 1, 0);
         x.rack(2, 0);
         due("it can't be", x.table(0, 3, 1, 0), -1);
@@ -603,12 +535,12 @@ public final class PromisesTest {
     }
 
     private static void yards() {
-        promise = 20;
+        about("promise 20");
         due("none", heap().yardQueues(), 0);
         due("one", heap(3, 3, 4).yardQueues(), 1);
         due("falling", heap(3, 1, 2, 1, 0).yardQueues(), 4);
         due("falling", heap(5, 9, 4, 8, 3, 7).yardQueues(), 3);
-        promise = 21;
+        about("promise 21");
         due("none", heap().yardPipes(), 0);
         due("like ones", heap(3, 3, 2).yardPipes(), 1);
         due("rising", heap(3, 1, 2, 1, 0).yardPipes(), 2);
@@ -619,7 +551,7 @@ public final class PromisesTest {
     }
 
     private static void yardByRack() {
-        promise = 22;
+        about("promise 22");
         NineHoles x = heap(3, 1, 2, 1, 0);
         x.rack(2, 2);
         int[] want = {1, 0, 0, 1, 1};
@@ -651,7 +583,7 @@ public final class PromisesTest {
     }
 
     private static void together() {
-        promise = 23;
+        about("promise 23");
         NineHoles x = heap(3, 1, 2, 1, 0);
         due("runs", x.together(-1), 2);
         int[] want = {1, 0, 3, 2};
@@ -675,7 +607,7 @@ public final class PromisesTest {
     }
 
     private static void blunders() {
-        promise = 24;
+        about("promise 24");
         NineHoles x = heap(0, 1, 2, 3);
         x.letter(1, 0, 2);
         law(x, "hs(1=1);z(i=3)");
@@ -708,7 +640,7 @@ public final class PromisesTest {
     }
 
     private static void badly() {
-        promise = 25;
+        about("promise 25");
         NineHoles x = heap(3, 1, 2, 1, 0);
         law(x, "hs(1=1);z(i=4)");
         // rightly: 4, 1, 3, 2, 0
@@ -764,7 +696,7 @@ public final class PromisesTest {
     }
 
     private static void clerks() {
-        promise = 26;
+        about("promise 26");
         NineHoles x = new NineHoles();
         x.letter(0, 1, 0);
         x.letter(0, 2, 0);
@@ -785,7 +717,7 @@ public final class PromisesTest {
     }
 
     private static void wanted() {
-        promise = 27;
+        about("promise 27");
         NineHoles x = new NineHoles();
         x.letter(3, 2, 0);
         x.letter(1, 3, 0);
@@ -811,7 +743,7 @@ public final class PromisesTest {
     }
 
     private static void shuffled() {
-        promise = 28;
+        about("promise 28");
         NineHoles x = heap(0, 1, 2, 3, 4);
         due("-1", x.seed(-1), false);
         due("65536", x.seed(65536), false);
@@ -821,7 +753,7 @@ public final class PromisesTest {
         due("0", x.seed(0), true);
         due("told", x.count(5), 0);
         x.seed(1);
-        promise = 29;
+        about("promise 29");
         due("out", x.shuffle(), 1);
         dueHeap("shuffled", x, 4, 1, 0, 3, 2);
         int at = 1;
@@ -833,7 +765,7 @@ public final class PromisesTest {
     }
 
     private static void keptAndUndone() {
-        promise = 30;
+        about("promise 30");
         NineHoles x = heap(2, 1);
         law(x, "hs(1=1)");
         x.letter(0, 0, 2);
@@ -845,7 +777,7 @@ public final class PromisesTest {
         x.rank(3, 7);
         x.rack(5, 1);
         x.feed(0, 0, 0, 0, 0);
-        promise = 31;
+        about("promise 31");
         due("true", x.undo(), true);
         dueHeap("heap", x, 0, 1);
         int[] want = {3, 2, 0, 1, 20, 5, 5, 1, 6, 2};
@@ -867,7 +799,7 @@ public final class PromisesTest {
     }
 
     private static void checks() {
-        promise = 32;
+        about("promise 32");
         NineHoles x = heap(1, 2, 3);
         due("right", check(x, 3, 0, 1, 2), -1);
         due("empty then", x.count(4), 0);
@@ -892,7 +824,7 @@ public final class PromisesTest {
     }
 
     private static void counts() {
-        promise = 33;
+        about("promise 33");
         NineHoles x = heap(4, 4, 19);
         x.letter(7, 30, 2);
         x.feed(0, 0, 0, 0, 0);
