@@ -36,6 +36,7 @@ public final class PromisesTest extends Office {
         keptAndUndone();
         checks();
         counts();
+        asReadmeShows();
         end("PromisesTest");
     }
 
@@ -841,5 +842,17 @@ public final class PromisesTest extends Office {
         x.goes(2);
         due("weights with the one that came", x.count(9), 33);
         due("streets with the one that came", x.count(8), 1 << 4 | 1 << 7 | 1 << 19);
+    }
+
+    private static void asReadmeShows() {
+        about("README.md");
+        NineHoles x = new NineHoles();
+        due("there at once", x.letter(4, 10, 0), 0);
+        due("comes later", x.letter(1, 10, 2), 1);
+        due("fed", x.feed(0x68732831, 0x3d312900, 0, 0, 0), 20);
+        due("a law", x.law(7), 1);
+        due("seconds", x.goes(2), 0);
+        due("on top", x.at(0), 1);
+        due("four clauses", law(x, "h8(w>50);hs%n(1=1);t1+w/10(1=1);z(g=0&o=9&s<2)"), 4);
     }
 }
